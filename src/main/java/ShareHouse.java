@@ -424,12 +424,16 @@ public final class ShareHouse {
         return greater;
     }
 
+    // rows are copied whole, not up to their count, so that back() leaves the places behind it as new ones are
+
     private static void copy(int[] from, int[] to) {
         System.arraycopy(from, 0, to, 0, Math.min(from.length, to.length));
     }
 
     private static void copy(boolean[] from, boolean[] to) {
-        System.arraycopy(from, 0, to, 0, Math.min(from.length, to.length));
+        for (int i = 0; i < from.length && i < to.length; i++) {
+            to[i] = from[i];
+        }
     }
 
     /** All that keep() keeps, so that keeping is one copy of it. */
@@ -504,8 +508,6 @@ public final class ShareHouse {
             floors[count] = floor;
             areas[count] = area;
             shops[count] = shop;
-            // back() may have left another FLAT's LEASE in this place
-            leases[count].count = 0;
             count++;
             return count - 1;
         }
@@ -733,7 +735,7 @@ public final class ShareHouse {
         private boolean readOne() {
             boolean isWanted = !take("not");
             if (take("shop")) {
-                holds &= shop == isWanted;
+                holds = holds && shop == isWanted;
                 return true;
             }
             boolean isAbove = isAtHand("above");
@@ -745,7 +747,7 @@ public final class ShareHouse {
             if (!within(other, 0, 9)) {
                 return false;
             }
-            holds &= (isAbove ? floor > other : floor < other) == isWanted;
+            holds = holds && (isAbove ? floor > other : floor < other) == isWanted;
             step();
             return true;
         }
@@ -1234,11 +1236,6 @@ public final class ShareHouse {
             }
             heads[count] = head;
             pence[count] = workPence;
-            // back() may have left another WORK in this place
-            isDone[count] = false;
-            letterCounts[count] = 0;
-            priceCounts[count] = 0;
-            greatestPrices[count] = 0;
             count++;
             return count - 1;
         }
@@ -1363,12 +1360,12 @@ public final class ShareHouse {
                 spent[i] += spent[i - 1];
             }
             levelPay = 0;
-            for (int i = 0; i < YEARS; i++) {
-                levelPay = Math.max(levelPay, leastPayFor(i, lack));
-            }
             bindingYear = -1;
-            for (int i = YEARS - 1; i >= 0 && levelPay > 0; i--) {
-                if (leastPayFor(i, lack) == levelPay) {
+            for (int i = 0; i < YEARS; i++) {
+                int pay = leastPayFor(i, lack);
+                // with a penny less than the greatest of these the first YEAR that asks for it lacks
+                if (pay > levelPay) {
+                    levelPay = pay;
                     bindingYear = i;
                 }
             }

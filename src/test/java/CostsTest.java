@@ -139,6 +139,10 @@ final class CostsTest {
             due("costOf(0, " + what + ")", x.costOf(0, what), want[what]);
         }
         due("what 8", x.costOf(0, 8), -1);
+        ShareHouse y = new ShareHouse();
+        y.flat(0, 1, false);
+        y.cost(0, 0, 99999);
+        due("the greatest level", y.costOf(0, 7), 9999900);
         due("what -1", x.costOf(0, -1), -1);
         due("cost 1", x.costOf(1, 0), -1);
         due("cost -1", x.costOf(-1, 0), -1);

@@ -171,6 +171,9 @@ final class HouseTest {
         text("roof pays areaA;", -114);
         text("roof pays " + (char) 233 + ";", -110);
         text("roof" + (char) 0 + "pays area;", -104);
+        text("soof pays area;", -100);
+        text("rooff pays area;", -100);
+        text("roo pays area;", -100);
         text("1 pays area;", -100);
         text("pays area;", -100);
         text("floor pays area;", -100);
@@ -250,6 +253,9 @@ final class HouseTest {
         }
         due("twenty ones", Checks.lease(x, 0, ones + ";"), 1);
         due("how many", x.clause(0, 0, 4), 20);
+        due("none", Checks.lease(x, 0, "all pays area;"), 1);
+        due("how many", x.clause(0, 0, 4), 0);
+        due("always", x.clause(0, 0, 5), 1);
     }
 
     private static void conditions() {

@@ -165,6 +165,21 @@ final class OwnersTest {
         x.rule(3, 99);
         due("rate 99", x.account(2, 40, 3), 31 * 99 / 10);
         due("another owner", x.account(3, 40, 3), 0);
+        x.pay(3, 99999);
+        x.days(1);
+        due("another's payment", x.account(2, 41, 3), 31 * 99 / 10);
+        ShareHouse y = two();
+        y.rule(2, 0);
+        y.sell(0, 0, 0);
+        y.sell(1, 1, 0);
+        y.cost(0, 0, 9999);
+        y.days(1);
+        due("5000 a day", y.account(0, 1, 3), 1);
+        due("4999 a day", y.account(1, 1, 3), 0);
+        y.pay(0, 5000);
+        y.days(1);
+        due("paid on the last day", y.account(0, 2, 3), 1);
+        due("not paid", y.account(1, 2, 3), 1);
     }
 
     private static void interestWithRights() {
@@ -248,6 +263,9 @@ final class OwnersTest {
         due("alike, the least", x.asked(0, 20), 2);
         due("alike, the other", x.asked(1, 20), 5);
         due("as known on 9", x.asked(0, 9), 5);
+        x.sell(0, 0, 0);
+        due("the first owner owes the most", x.asked(0, 20), 0);
+        due("and who has paid the most is last", x.asked(7, 20), 5);
         due("asked(8)", x.asked(8, 20), -1);
         due("asked(-1)", x.asked(-1, 20), -1);
         due("day 21", x.asked(0, 21), -1);

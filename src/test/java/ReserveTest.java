@@ -147,6 +147,11 @@ final class ReserveTest {
         x.rule(4, 2999);
         due("a penny short", x.level(0, 0), 1);
         due("binds late", x.level(0, 1), 24);
+        ShareHouse y = new ShareHouse();
+        y.piece(20, 30, 9);
+        y.rule(4, 30);
+        due("one a year", y.level(0, 0), 1);
+        due("binds in the last year", y.level(0, 1), 29);
     }
 
     private static void leftOver() {
@@ -220,6 +225,14 @@ final class ReserveTest {
         y.piece(20, 1000, 1);
         due("the least pieces", y.worst(2), 3);
         due("one is no more than none", y.worst(1), 0);
+        // {0, 1} needs 200 in year 0, {2} 400 by 2 in year 1: the fewest
+        ShareHouse v = new ShareHouse();
+        v.piece(20, 100, 1);
+        v.piece(20, 100, 1);
+        v.piece(20, 200, 2);
+        due("two", v.level(3, 0), 200);
+        due("one", v.level(4, 0), 200);
+        due("the fewest, told later", v.worst(3), 4);
         ShareHouse z = new ShareHouse();
         z.piece(20, 500, 20);
         z.piece(20, 900, 1);

@@ -46,6 +46,10 @@ final class WholeTest {
         due("two, the least", x.buyers(), 5);
         x.sell(4, 2, 0);
         due("one", x.buyers(), 4);
+        ShareHouse y = new ShareHouse();
+        y.flat(0, 1, false);
+        y.sell(0, 0, 0);
+        due("the first one alone", y.buyers(), 1);
     }
 
     private static void buyersToday() {

@@ -220,6 +220,23 @@ final class WorksTest {
         due("as known on 5", x.landlord(2, 5), 44);
         x.right(2, 500);
         due("once more", x.cut(2), 44);
+        ShareHouse y = new ShareHouse();
+        y.flat(0, 300, false);
+        y.flat(0, 300, false);
+        y.cost(0, 0, 5);
+        y.cost(0, 0, 6);
+        y.like(0, 0);
+        y.like(0, 0);
+        y.like(0, 0);
+        due("fair 0, level 0", y.cut(0), -4);
+        due("fair 0, level 1", y.cut(1), 0);
+        ShareHouse z = new ShareHouse();
+        z.flat(0, 300, false);
+        z.cost(0, 0, 99999);
+        z.like(0, 9999);
+        z.like(0, 9999);
+        z.like(0, 9999);
+        due("great fair", z.cut(0), 29997);
     }
 
     private static void cutRefusals() {
