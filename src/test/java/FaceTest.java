@@ -17,8 +17,8 @@ final class FaceTest {
     private static final Checks CHECKS = new Checks();
     private static final Path DOCUMENT = Path.of("../shared/DOC.md");
     private static final Path SOURCE = Path.of("src/main/java/ShareHouse.java");
-    private static final List<String> FORBIDDEN = List.of("\\bthrow\\b", "\\btry\\b", "\\bcatch\\b", "\\bsynchronized\\b",
-            "\\bassert\\b", "->", "::", "\\w+Exact\\b", "\\bSystem\\.(?!arraycopy)", "^package\\b", "\\bstatic\\s*\\{",
+    private static final List<String> FORBIDDEN = List.of("\\bthrow\\b", "\\btry\\b", "\\bcatch\\b",
+            "\\bsynchronized\\b", "\\bassert\\b", "->", "::", "\\w+Exact\\b", "\\bSystem\\.(?!arraycopy)", "^package\\b", "\\bstatic\\s*\\{",
             "^import (?!java\\.util\\.Arrays;)");
 
     private FaceTest() {

@@ -208,7 +208,7 @@ final class ReserveTest {
     }
 
     private static void worstByPieces() {
-        // {0, 3} needs 200 in year 0, {1, 2} 600 by 3 in year 2: the one with piece 0 goes ahead, though its bits are more
+        // {0, 3} needs 200 in year 0, {1, 2} 600 by 3 in year 2: that with piece 0 goes ahead, though its bits are more
         ShareHouse x = new ShareHouse();
         x.piece(20, 100, 1);
         x.piece(20, 200, 3);
