@@ -180,6 +180,14 @@ final class OwnersTest {
         y.days(1);
         due("paid on the last day", y.account(0, 2, 3), 1);
         due("not paid", y.account(1, 2, 3), 1);
+        ShareHouse z = two();
+        z.rule(2, 0);
+        z.sell(0, 0, 0);
+        z.cost(0, 0, 9998);
+        z.days(1);
+        z.pay(0, 4999);
+        z.days(100);
+        due("days on which nothing is late", z.account(0, 101, 3), 0);
     }
 
     private static void interestWithRights() {

@@ -231,6 +231,19 @@ final class WholeTest {
         due("all is back", before.equals(after) ? 1 : 0, 1);
         due("letters", x.letter(0), 2);
         due("prices", x.price(0, 1), 2);
+        x.days(30);
+        x.work(0, 80);
+        x.letter(1);
+        x.days(30);
+        x.letter(1);
+        x.days(30);
+        x.price(1, 50);
+        x.price(1, 79);
+        x.keep();
+        x.price(1, 80);
+        due("dear enough", x.capped(1), 0);
+        x.back();
+        due("too dear again", x.capped(1), 5);
     }
 
     private static String tellAll(ShareHouse x) {
