@@ -138,7 +138,7 @@ final class FaceTest {
         for (int i = 0; i < 20; i++) {
             x.cost(0, 0, 100);
         }
-        for (int i = 0; i < 100; i++) {
+        for (int i = 0; i < 80; i++) {
             x.worst(7);
             x.asked(0, 0);
             x.keep();

@@ -15,6 +15,7 @@ final class OracleTest {
     private final boolean isCalm;
     private final int dayStep;
     private String pending = "";
+    private boolean isFed = false;
 
     private OracleTest(Checks checks, int seed) {
         this.checks = checks;
@@ -136,12 +137,18 @@ final class OracleTest {
     }
 
     private void call(int seed, int i) {
+        String name = "seed " + seed + ", call " + i + ": ";
         if (!pending.isEmpty()) {
-            feedSome(seed, i);
+            feedSome(name);
+            return;
+        }
+        if (isFed) {
+            isFed = false;
+            int f = flat();
+            due(name, "lease", x.lease(f), o.lease(f), f);
             return;
         }
         int kind = random.nextInt(100);
-        String name = "seed " + seed + ", call " + i + ": ";
         if (kind < 28) {
             house(name, random.nextInt(10));
         } else if (kind < 52) {
@@ -165,18 +172,15 @@ final class OracleTest {
         checks.due(text.append(')').toString(), got, want);
     }
 
-    private void feedSome(int seed, int i) {
+    private void feedSome(String name) {
         int n = Math.min(pending.length(), 8);
         long w = random.nextLong();
         for (int j = n - 1; j >= 0; j--) {
             w = w & ~(255L << 8 * j) | (long) pending.charAt(j) << 8 * j;
         }
         pending = pending.substring(n);
-        due("seed " + seed + ", call " + i + ": ", "feed", x.feed(w, n), o.feed(w, n), n);
-        if (pending.isEmpty() && random.nextInt(20) > 0) {
-            int f = flat();
-            due("seed " + seed + ", call " + i + ": ", "lease", x.lease(f), o.lease(f), f);
-        }
+        due(name, "feed", x.feed(w, n), o.feed(w, n), n);
+        isFed = pending.isEmpty() && random.nextInt(20) > 0;
     }
 
     private void house(String name, int kind) {
