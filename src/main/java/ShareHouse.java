@@ -67,14 +67,13 @@ public final class ShareHouse {
     }
 
     public int lease(int flat) {
-        int answer = house.flats.has(flat) ? readLease(flat) : NUMBER;
-        tape.clear();
-        return answer;
-    }
-
-    private int readLease(int flat) {
         Flats flats = house.flats;
+        if (!flats.has(flat)) {
+            tape.clear();
+            return NUMBER;
+        }
         int fault = tape.read(flats.floors[flat], flats.shops[flat]);
+        tape.clear();
         if (fault >= 0) {
             return FAULT - fault;
         }

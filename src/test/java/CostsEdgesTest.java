@@ -65,7 +65,7 @@ final class CostsEdgesTest {
 
     private static Edges.State costOfDay(int day, int today) {
         return x -> {
-            States.toDay(x, today);
+            States.pass(x, today);
             x.cost(0, day, 5);
         };
     }
@@ -113,7 +113,7 @@ final class CostsEdgesTest {
     /** Terms: "on a DAY (0 to TODAY)". */
     private static void costDays() {
         EDGES.bounds("11 today 0", States::empty, 0, 0, (x, v) -> x.cost(0, v, 1), ShareHouse.NUMBER);
-        EDGES.bounds("11 today 900", x -> States.toDay(x, 900), 0, 900, (x, v) -> x.cost(0, v, 1), ShareHouse.NUMBER);
+        EDGES.bounds("11 today 900", x -> States.pass(x, 900), 0, 900, (x, v) -> x.cost(0, v, 1), ShareHouse.NUMBER);
     }
 
     /** Terms: "COSTS are numbered from 0 as they come, 20 at most"; FULL behind NUMBER. */
@@ -129,7 +129,7 @@ final class CostsEdgesTest {
     /** 11, 13: the least and the greatest numbers of a COST are those that are answered. */
     private static void costIsKeptAsItCame() {
         ShareHouse x = new ShareHouse();
-        States.toDay(x, 900);
+        States.pass(x, 900);
         x.cost(0, 0, 0);
         x.cost(5, 900, 99999);
         int[][] want = {{0, 0, 0, 0, 900, 0, 0}, {5, 900, 99999, 99999, 900, 0, 0}};
@@ -168,6 +168,8 @@ final class CostsEdgesTest {
         }
         EDGES.due("13 the thirtieth counts", x.costOf(0, 2), 29);
         EDGES.due("13 how often", x.costOf(0, 6), 30);
+        EDGES.answers("13 how often of two", States::rich, y -> y.costOf(0, 6), 1);
+        EDGES.answers("13 never", States::rich, y -> y.costOf(2, 6), 0);
     }
 
     private static void thirtyWithCut(ShareHouse x) {
@@ -209,13 +211,21 @@ final class CostsEdgesTest {
     /** Terms: "A COST is KNOWN from the TODAY on when it came"; other PENCE "KNOWN from that TODAY on"; the latest. */
     private static void knownFromThatDayOn() {
         ShareHouse x = new ShareHouse();
+        x.flat(0, 1, false);
+        x.flat(0, 1, false);
+        Checks.lease(x, 1, "all pays 1 of 2;");
         x.days(10);
-        x.cost(0, 0, 100);
+        x.cost(0, 0, 200);
         x.days(10);
-        x.right(0, 200);
-        x.right(0, 300);
+        x.right(0, 400);
+        x.right(0, 600);
         x.days(10);
         x.right(0, 0);
+        int[] days = {10, 19, 20, 29, 30};
+        int[] parts = {100, 100, 300, 300, 0};
+        for (int i = 0; i < days.length; i++) {
+            EDGES.due("14 as known on " + days[i], x.part(0, 1, days[i]), parts[i]);
+        }
         EDGES.due("15 ahead of the day it came", x.landlord(0, 9), ShareHouse.NOTHING);
         EDGES.due("15 on the day it came", x.landlord(0, 10), 100);
         EDGES.due("15 ahead of the day it was put right", x.landlord(0, 19), 100);
@@ -223,7 +233,7 @@ final class CostsEdgesTest {
         EDGES.due("15 ahead of the next day", x.landlord(0, 29), 300);
         EDGES.due("15 on the next day", x.landlord(0, 30), 0);
         EDGES.due("13 as now", x.costOf(0, 2), 0);
-        EDGES.due("13 as it came", x.costOf(0, 3), 100);
+        EDGES.due("13 as it came", x.costOf(0, 3), 200);
     }
 
     /** 13: "NUMBER: there is none such, what". */
@@ -386,6 +396,10 @@ final class CostsEdgesTest {
         two("24 of 24", "1 of 24", 1, 25, new int[] {24, 1});
         two("24 of 24", "1 of 24", 2, 25, new int[] {24, 1});
         two("24 of 24", "1 of 24", 2, 12, new int[] {12, 0});
+        // 1 / 24 together, the least that is not nothing
+        two("1 of 24", "nothing", 0, 99999, new int[] {4166, 0});
+        two("1 of 24", "nothing", 1, 99999, new int[] {99999, 0});
+        two("1 of 24", "nothing", 2, 99999, new int[] {4166, 0});
         // 2 together, the most that two can make
         two("1 of 1", "1 of 1", 0, 99999, new int[] {99999, 99999});
         two("1 of 1", "1 of 1", 2, 99999, new int[] {50000, 49999});

@@ -28,7 +28,9 @@ final class FaceTest {
         constants();
         face();
         noNameTwice();
+        fields();
         source();
+        lengths();
         room();
         CHECKS.end("FaceTest");
     }
@@ -97,6 +99,39 @@ final class FaceTest {
                 CHECKS.due(m + " has seven parameters at most", m.getParameterCount() <= 7 ? 1 : 0, 1);
             }
         }
+    }
+
+    /** Rules 5 and 11: what is static is a constant, and a class has some twenty fields. */
+    private static void fields() {
+        List<Class<?>> classes = new ArrayList<>(List.of(ShareHouse.class.getDeclaredClasses()));
+        classes.add(ShareHouse.class);
+        for (Class<?> c : classes) {
+            int many = 0;
+            for (Field f : c.getDeclaredFields()) {
+                boolean isStatic = Modifier.isStatic(f.getModifiers());
+                many += isStatic ? 0 : 1;
+                CHECKS.due(f + " is final", isStatic && !Modifier.isFinal(f.getModifiers()) ? 1 : 0, 0);
+            }
+            CHECKS.due(c + " has twenty fields at most: " + many, many <= 20 ? 1 : 0, 1);
+        }
+    }
+
+    /** Rule 11: a method has some sixty lines. */
+    private static void lengths() throws IOException {
+        List<String> lines = Files.readAllLines(SOURCE);
+        int methods = 0;
+        for (int i = 0; i < lines.size(); i++) {
+            Matcher head = Pattern.compile("^( {4}| {8})(?!if|for|while|switch)\\w[^=]*\\) \\{$").matcher(lines.get(i));
+            if (head.find()) {
+                int end = i + 1;
+                while (end < lines.size() && !lines.get(end).equals(head.group(1) + "}")) {
+                    end++;
+                }
+                methods++;
+                CHECKS.due(lines.get(i) + " has sixty lines at most", end - i < 60 ? 1 : 0, 1);
+            }
+        }
+        CHECKS.due("methods are found", methods > 100 ? 1 : 0, 1);
     }
 
     private static void source() throws IOException {

@@ -18,6 +18,8 @@ final class HouseEdgesTest {
         twoHundredBytes();
         clauseNumbers();
         twelfthClauseIsTheLast();
+        clausesOfEachKind();
+        shopOrNot();
         aboveAndBelowAreStrict();
         shareNumbers();
         shareIsCleared();
@@ -25,6 +27,7 @@ final class HouseEdgesTest {
         floorShareOfNoFloors();
         sumNumbers();
         sumOfNothing();
+        sumOfEightAlike();
         lawNumbers();
         EDGES.end("HouseEdgesTest");
     }
@@ -122,10 +125,10 @@ final class HouseEdgesTest {
 
     /** 3: "STATE: it would be above 900"; NUMBER ahead of STATE. */
     private static void todayIsAtMost900() {
-        Edges.State on800 = x -> States.toDay(x, 800);
-        Edges.State on801 = x -> States.toDay(x, 801);
-        Edges.State on899 = x -> States.toDay(x, 899);
-        Edges.State on900 = x -> States.toDay(x, 900);
+        Edges.State on800 = x -> States.pass(x, 800);
+        Edges.State on801 = x -> States.pass(x, 801);
+        Edges.State on899 = x -> States.pass(x, 899);
+        Edges.State on900 = x -> States.pass(x, 900);
         EDGES.answers("3 from 800 by 100", on800, x -> x.days(100), 900);
         EDGES.refused("3 from 801 by 100", on801, x -> x.days(100), ShareHouse.STATE);
         EDGES.answers("3 from 801 by 99", on801, x -> x.days(99), 900);
@@ -199,6 +202,38 @@ final class HouseEdgesTest {
     private static void twelfthClauseIsTheLast() {
         EDGES.bounds("6 twelve", HouseEdgesTest::twelve, 0, 11, (x, v) -> x.clause(1, v, 1), ShareHouse.NUMBER);
         EDGES.answers("6 the twelfth", HouseEdgesTest::twelve, x -> x.clause(1, 11, 1), 2);
+    }
+
+    /** 6: "2 N, 3 M (NONE of others, both), 4 how many ONES it has, 5 1 if it is for the FLAT, else 0". */
+    private static void clausesOfEachKind() {
+        ShareHouse x = new ShareHouse();
+        x.flat(4, 1, false);
+        Checks.lease(x, 0, "roof pays 2 of 3 if shop and above 3 and below 5;roof and agent pays nothing;all pays equal;"
+                + "lift and lamps pays area if not shop;water pays floor if shop;fire pays 0 of 24;");
+        int[][] want = {{1, 4, 2, 3, 3, 0}, {33, 0, -3, -3, 0, 1}, {63, 1, -3, -3, 0, 1}, {6, 2, -3, -3, 1, 1},
+            {8, 3, -3, -3, 1, 0}, {16, 4, 0, 24, 0, 1}};
+        for (int i = 0; i < 36; i++) {
+            EDGES.due("6 clause(0, " + i / 6 + ", " + i % 6 + ")", x.clause(0, i / 6, i % 6), want[i / 6][i % 6]);
+        }
+        // what an earlier lease had at the same place is gone
+        Checks.lease(x, 0, "all pays area;all pays 1 of 2;");
+        for (int i = 0; i < 6; i++) {
+            EDGES.due("6 anew, " + i, x.clause(0, 0, i), new int[] {63, 2, -3, -3, 0, 1}[i]);
+        }
+    }
+
+    /** Terms: "a SHOP or not"; "shop: it has one". */
+    private static void shopOrNot() {
+        for (boolean shop : new boolean[] {true, false}) {
+            ShareHouse x = new ShareHouse();
+            x.flat(0, 1, !shop);
+            x.flat(0, 1, shop);
+            Checks.lease(x, 1, "roof pays 1 of 2 if shop;lift pays 1 of 2 if not shop;");
+            EDGES.due("6 shop is " + shop, x.clause(1, 0, 5), shop ? 1 : 0);
+            EDGES.due("6 not shop is " + !shop, x.clause(1, 1, 5), shop ? 0 : 1);
+            EDGES.due("7 shop " + shop, x.share(1, 0, 0), shop ? 1 : 0);
+            EDGES.due("7 not shop " + !shop, x.share(1, 1, 0), shop ? 0 : 1);
+        }
     }
 
     /** Terms: "above F, below F: its FLOOR is more, or less", F from 0 to 9, FLOOR from 0 to 9. */
@@ -302,6 +337,28 @@ final class HouseEdgesTest {
         EDGES.due("8 equal, below", x.sum(1, 1), 1);
         EDGES.due("8 cleared, above", x.sum(3, 0), 1);
         EDGES.due("8 cleared, below", x.sum(3, 1), 3);
+    }
+
+    /** 8: eight SHARES by the greatest numbers are 1 together, to the last bit. */
+    private static void sumOfEightAlike() {
+        ShareHouse x = new ShareHouse();
+        for (int i = 0; i < 8; i++) {
+            x.flat(i == 0 ? 8 : 9, i == 0 ? 299 : 300, false);
+            Checks.lease(x, i, "all pays area;lift pays floor;lamps pays 1 of 23;water pays equal;");
+        }
+        int[] above = {1, 1, 8, 1};
+        int[] below = {1, 1, 23, 1};
+        for (int head = 0; head < 4; head++) {
+            EDGES.due("8 eight alike, above, " + head, x.sum(head, 0), above[head]);
+            EDGES.due("8 eight alike, below, " + head, x.sum(head, 1), below[head]);
+        }
+        EDGES.due("7 the greatest area below", x.share(7, 0, 1), 2399);
+        EDGES.due("7 the greatest floor below", x.share(7, 1, 1), 71);
+        x.cost(0, 0, 99999);
+        // its rest is the greatest, so the penny that is left goes to it
+        EDGES.due("14 by the greatest areas, the least", x.part(0, 0, 0), 99999 * 299 / 2399 + 1);
+        EDGES.due("14 by the greatest areas, the others", x.part(0, 7, 0), 99999 * 300 / 2399);
+        EDGES.due("15 nothing is left", x.landlord(0, 0), 0);
     }
 
     /** 9: "NUMBER: there is no such HEAD, or v isn't 0 to 2"; "what it was". */

@@ -262,6 +262,8 @@ final class LeaseEdgesTest {
         faulty("all pays area if shop if shop;", 22);
         faulty("all pays area if shop pays;", 22);
         faulty("all pays 1 of 2 of 3;", 16);
+        faulty("pays area;", 0);
+        faulty("roof and pays area;", 9);
         faulty("7 pays area;", 0);
         faulty("all 7 area;", 4);
         faulty("all pays area 7;", 14);

@@ -29,6 +29,7 @@ final class OwnersEdgesTest {
         greatestAccount();
         askedNumbers();
         askedOfLikeOnes();
+        askedAsKnownThen();
         EDGES.end("OwnersEdgesTest");
     }
 
@@ -45,7 +46,7 @@ final class OwnersEdgesTest {
         Edges.State on0 = x -> x.flat(0, 1, false);
         Edges.State on900 = x -> {
             x.flat(0, 1, false);
-            States.toDay(x, 900);
+            States.pass(x, 900);
         };
         EDGES.bounds("16 today 0", on0, 0, 0, (x, v) -> x.sell(0, 0, v), ShareHouse.NUMBER);
         EDGES.bounds("16 today 900", on900, 0, 900, (x, v) -> x.sell(0, 0, v), ShareHouse.NUMBER);
@@ -82,7 +83,7 @@ final class OwnersEdgesTest {
         ShareHouse x = new ShareHouse();
         x.flat(0, 1, false);
         x.flat(0, 1, false);
-        States.toDay(x, 900);
+        States.pass(x, 900);
         x.sell(0, 7, 900);
         x.sell(0, 0, 1);
         x.sell(0, 3, 500);
@@ -144,7 +145,7 @@ final class OwnersEdgesTest {
         }
         EDGES.bounds("19 what", States::richWithTape, 0, 3, (x, v) -> x.account(3, 50, v), ShareHouse.NOTHING);
         EDGES.bounds("19 today 0", States::empty, 0, 0, (x, v) -> x.account(0, v, 0), ShareHouse.NOTHING);
-        EDGES.bounds("19 today 900", x -> States.toDay(x, 900), 0, 900, (x, v) -> x.account(0, v, 3),
+        EDGES.bounds("19 today 900", x -> States.pass(x, 900), 0, 900, (x, v) -> x.account(0, v, 3),
                 ShareHouse.NOTHING);
     }
 
@@ -206,6 +207,9 @@ final class OwnersEdgesTest {
         EDGES.due("19 paid that day", x.account(0, 5, 1), 31);
         EDGES.due("19 paid a day behind", x.account(0, 6, 1), 31);
         EDGES.due("19 balance that day", x.account(0, 5, 2), -31);
+        EDGES.due("19 balance a day ahead", x.account(0, 4, 2), -1);
+        EDGES.due("20 last that day", x.asked(7, 5), 1);
+        EDGES.due("20 last a day ahead", x.asked(7, 4), 0);
     }
 
     /** A debt of so many pence from DAY 0 on, TODAY as told: each DAY's interest is as much as its pence. */
@@ -215,7 +219,7 @@ final class OwnersEdgesTest {
         if (grace >= 0) {
             x.rule(2, grace);
         }
-        States.toDay(x, today);
+        States.pass(x, today);
         return x;
     }
 
@@ -248,7 +252,7 @@ final class OwnersEdgesTest {
         EDGES.due("19 grace 90, on 91", debt(5000, 90, 91).account(2, 91, 3), 1);
         EDGES.due("19 grace 90, on 900", debt(5000, 90, 900).account(2, 900, 3), 810);
         ShareHouse x = owned();
-        States.toDay(x, 900);
+        States.pass(x, 900);
         x.rule(2, 90);
         x.cost(0, 900, 5000);
         x.cost(0, 810, 5000);
@@ -265,6 +269,14 @@ final class OwnersEdgesTest {
         y.pay(2, 5000);
         y.days(99);
         EDGES.due("19 paid a day behind", y.account(2, 100, 3), 1);
+        EDGES.due("19 paid on the day, known a day behind", x.account(2, 1, 3), 0);
+        ShareHouse last = debt(5000, 0, 900);
+        last.pay(2, 5000);
+        EDGES.due("19 paid on the last day of all", last.account(2, 900, 3), 900);
+        ShareHouse other = debt(5000, 0, 0);
+        other.pay(1, 5000);
+        other.days(1);
+        EDGES.due("19 another owner paid", other.account(2, 1, 3), 1);
         ShareHouse z = debt(10000, 0, 0);
         z.pay(2, 5000);
         z.days(3);
@@ -295,6 +307,10 @@ final class OwnersEdgesTest {
         EDGES.due("19 just no penny of two days", debt(2499, 0, 2).account(2, 2, 3), 0);
         EDGES.due("19 the least debt", debt(1, 0, 900).account(2, 900, 3), 0);
         EDGES.due("19 no debt", debt(0, 0, 900).account(2, 900, 3), 0);
+        ShareHouse x = debt(4999, 0, 1);
+        x.pay(2, 4999);
+        States.pass(x, 899);
+        EDGES.due("19 days without debt", x.account(2, 900, 3), 0);
     }
 
     /** Terms: "RATE (0 to 99)". */
@@ -321,11 +337,22 @@ final class OwnersEdgesTest {
         }
         x.rule(2, 0);
         x.rule(3, 99);
-        States.toDay(x, 900);
+        States.pass(x, 900);
         EDGES.due("19 the greatest bill", x.account(7, 900, 0), 15999840);
         EDGES.due("19 the greatest balance", x.account(7, 900, 2), 15999840);
         EDGES.due("19 the greatest interest", x.account(7, 900, 3), 14255857);
         EDGES.due("20 who owes it", x.asked(0, 900), 7);
+    }
+
+    /** On DAY 1 OWNER 2 owes 5000 since DAY 0, and OWNER 0 so many pence since DAY 1. */
+    private static ShareHouse twoDebts(int pence) {
+        ShareHouse x = debt(5000, 0, 1);
+        Checks.lease(x, 0, "roof pays 1 of 1;");
+        x.flat(0, 1, false);
+        Checks.lease(x, 1, "lift pays 1 of 1;");
+        x.sell(1, 0, 0);
+        x.cost(1, 1, pence);
+        return x;
     }
 
     /** 20: "NUMBER: i isn't 0 to 7, or there is no such DAY (0 to TODAY)". */
@@ -333,7 +360,7 @@ final class OwnersEdgesTest {
         EDGES.bounds("20 i", States::richWithTape, 0, 7, (x, v) -> x.asked(v, 50), ShareHouse.NUMBER);
         EDGES.bounds("20 day", States::richWithTape, 0, 50, (x, v) -> x.asked(0, v), ShareHouse.NUMBER);
         EDGES.bounds("20 today 0", States::empty, 0, 0, (x, v) -> x.asked(7, v), ShareHouse.NUMBER);
-        EDGES.bounds("20 today 900", x -> States.toDay(x, 900), 0, 900, (x, v) -> x.asked(7, v), ShareHouse.NUMBER);
+        EDGES.bounds("20 today 900", x -> States.pass(x, 900), 0, 900, (x, v) -> x.asked(7, v), ShareHouse.NUMBER);
     }
 
     /** Terms: "OWNERS by BALANCE and INTEREST together, the most first, of several the least". */
@@ -347,17 +374,29 @@ final class OwnersEdgesTest {
             EDGES.due("20 like ones, " + i, x.asked(i, 0), want[i]);
         }
         // a penny of interest is as much as a penny of balance
-        ShareHouse y = debt(5000, 0, 1);
-        Checks.lease(y, 0, "roof pays 1 of 1;");
-        y.flat(0, 1, false);
-        Checks.lease(y, 1, "lift pays 1 of 1;");
-        y.sell(1, 0, 0);
-        y.cost(1, 1, 5001);
+        ShareHouse y = twoDebts(5001);
         EDGES.due("20 like with interest, the least", y.asked(0, 1), 0);
         EDGES.due("20 like with interest, the other", y.asked(1, 1), 2);
         y.right(1, 5000);
         EDGES.due("20 a penny more by interest", y.asked(0, 1), 2);
+        y.days(1);
+        EDGES.due("20 a penny more, as known the day ahead", y.asked(0, 1), 2);
+        y.right(1, 5001);
+        EDGES.due("20 a penny each, as known today", y.asked(0, 2), 0);
+        EDGES.due("20 a penny more, as known yesterday", y.asked(0, 1), 2);
         EDGES.due("20 as known on 0", y.asked(0, 0), 2);
         EDGES.due("20 as known on 0, the next", y.asked(1, 0), 0);
+    }
+
+    /** 20: "as KNOWN on a DAY": neither what was paid nor the interest that grew behind that DAY counts. */
+    private static void askedAsKnownThen() {
+        ShareHouse x = twoDebts(5002);
+        x.days(1);
+        x.pay(0, 5002);
+        x.days(8);
+        EDGES.due("20 5002 and 5001, as known on 1", x.asked(0, 1), 0);
+        EDGES.due("20 the other, as known on 1", x.asked(1, 1), 2);
+        EDGES.due("20 1 and 5010, as known on 10", x.asked(0, 10), 2);
+        EDGES.due("20 the other, as known on 10", x.asked(1, 10), 0);
     }
 }

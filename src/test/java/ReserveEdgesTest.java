@@ -275,6 +275,13 @@ final class ReserveEdgesTest {
             x.rule(4, 99999);
         };
         EDGES.answers("32 no pay in any case", enough, x -> x.worst(7), 0);
+        Edges.State fewer = x -> {
+            x.piece(20, 100, 1);
+            x.piece(20, 100, 1);
+            x.piece(20, 200, 2);
+        };
+        // 0 and 1 ask for 200 in year 0, 2 alone for 400 by 2
+        EDGES.answers("32 the fewest, though its number is more", fewer, x -> x.worst(2), 4);
         Edges.State like = x -> {
             x.piece(20, 1, 20);
             x.piece(20, 200, 3);
@@ -415,6 +422,8 @@ final class ReserveEdgesTest {
         EDGES.due("36 the last is wrong", x.check(), 126);
         x.drop();
         EDGES.due("36 the wrong one went", x.check(), 126);
+        x.drop();
+        EDGES.due("36 the wrong one went, and one more", x.check(), 125);
         x.alter(0, 0, -7);
         EDGES.due("36 the first is wrong", x.check(), 0);
     }

@@ -106,9 +106,9 @@ final class States {
         }
     }
 
-    /** From DAY 0 on. */
-    static void toDay(ShareHouse x, int day) {
-        for (int left = day; left > 0; left -= 100) {
+    /** So many DAYS go by, 100 at most a call. */
+    static void pass(ShareHouse x, int days) {
+        for (int left = days; left > 0; left -= 100) {
             x.days(Math.min(100, left));
         }
     }

@@ -15,6 +15,7 @@ final class WholeEdgesTest {
         keptLatest();
         keptStays();
         allIsBack();
+        worksAreBack();
         tapeAndRowsAreNotKept();
         roomIsBack();
         probesTellChanges();
@@ -72,7 +73,7 @@ final class WholeEdgesTest {
     private static void ownersOfToday() {
         ShareHouse x = new ShareHouse();
         x.flat(0, 1, false);
-        States.toDay(x, 900);
+        States.pass(x, 900);
         x.sell(0, 3, 899);
         EDGES.due("37 since yesterday", x.buyers(), 8);
         x.sell(0, 4, 900);
@@ -180,11 +181,47 @@ final class WholeEdgesTest {
             States.full(x);
             x.back();
         });
-        ShareHouse y = Edges.made(States::full);
+        ShareHouse y = Edges.made(States::rich);
         y.keep();
-        Checks.lease(y, 7, "");
+        for (int flat = 0; flat < 3; flat++) {
+            Checks.lease(y, flat, "all pays nothing;all pays nothing;all pays nothing;");
+        }
         EDGES.due("40 back", y.back(), 1);
-        EDGES.due("6 a lease is back", y.clause(7, 0, 1), 2);
+        int[] kinds = {2, 1, 3};
+        for (int flat = 0; flat < 3; flat++) {
+            EDGES.due("6 a lease is back, " + flat, y.clause(flat, 0, 1), kinds[flat]);
+            EDGES.due("6 no more than that, " + flat, y.clause(flat, 2, 1), ShareHouse.NUMBER);
+        }
+    }
+
+    /** 39, 40: of a WORK its LETTERS and PRICES are back too. */
+    private static void worksAreBack() {
+        ShareHouse x = new ShareHouse();
+        x.work(0, 500);
+        x.letter(0);
+        x.days(30);
+        x.keep();
+        x.letter(0);
+        x.days(30);
+        x.price(0, 500);
+        x.price(0, 500);
+        EDGES.due("25 in order", x.capped(0), 0);
+        x.back();
+        EDGES.due("25 one letter", x.capped(0), 1);
+        EDGES.due("22 the second letter", x.letter(0), 2);
+        x.days(30);
+        EDGES.due("25 no prices", x.capped(0), 4);
+        EDGES.due("23 the first price", x.price(0, 1), 1);
+        x.price(0, 499);
+        x.keep();
+        x.price(0, 500);
+        EDGES.due("25 the greatest price", x.capped(0), 0);
+        x.back();
+        EDGES.due("25 the greatest price is gone", x.capped(0), 5);
+        x.done(0);
+        x.back();
+        EDGES.due("25 not done", x.capped(0), 5);
+        EDGES.due("23 the third price", x.price(0, 2), 3);
     }
 
     /** 39: "All but THE TAPE and ROWS": what is on them stays as it is now. */

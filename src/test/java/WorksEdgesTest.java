@@ -137,6 +137,12 @@ final class WorksEdgesTest {
     private static void doneOnce() {
         EDGES.refused("24 done again", States::richWithTape, x -> x.done(2), ShareHouse.STATE);
         EDGES.answers("24 another", States::richWithTape, x -> x.done(1), 4);
+        Edges.State firstCost = x -> {
+            threeWorks(x);
+            x.done(1);
+        };
+        EDGES.answers("24 the first cost", firstCost, x -> x.many(2), 1);
+        EDGES.refused("24 done again, as the first cost", firstCost, x -> x.done(1), ShareHouse.STATE);
     }
 
     private static void nineteenCosts(ShareHouse x) {
@@ -167,7 +173,7 @@ final class WorksEdgesTest {
         ShareHouse x = new ShareHouse();
         x.work(0, 1);
         x.work(5, 99999);
-        States.toDay(x, 900);
+        States.pass(x, 900);
         x.done(1);
         x.done(0);
         int[][] want = {{5, 900, 99999, 99999, 900, 1, 0}, {0, 900, 1, 1, 900, 1, 0}};
@@ -237,6 +243,11 @@ final class WorksEdgesTest {
         why("29 apart", offered(29, 60, 500, 500), 2);
         why("30 apart", offered(30, 60, 500, 500), 0);
         why("31 apart", offered(31, 60, 500, 500), 0);
+        Edges.State fromDay100 = x -> {
+            x.days(100);
+            offered(29, 60, 500, 500).build(x);
+        };
+        why("29 apart, from day 100 on", fromDay100, 2);
     }
 
     /** Terms: "the second 30 DAYS or more ahead of TODAY"; 25: "3 the second is too late". */
@@ -392,7 +403,7 @@ final class WorksEdgesTest {
     private static Edges.State cutOn(int day, int limit) {
         return x -> {
             fairOf(10, 100, 5000).build(x);
-            States.toDay(x, day);
+            States.pass(x, day);
             if (limit >= 0) {
                 x.rule(0, limit);
             }
