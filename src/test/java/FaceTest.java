@@ -8,6 +8,7 @@ import java.nio.file.Files;
 import java.nio.file.Path;
 import java.util.ArrayList;
 import java.util.List;
+import java.util.Set;
 import java.util.TreeSet;
 import java.util.regex.Matcher;
 import java.util.regex.Pattern;
@@ -18,8 +19,10 @@ final class FaceTest {
     private static final Path DOCUMENT = Path.of("../shared/DOC.md");
     private static final Path SOURCE = Path.of("src/main/java/ShareHouse.java");
     private static final List<String> FORBIDDEN = List.of("\\bthrow\\b", "\\btry\\b", "\\bcatch\\b",
-            "\\bsynchronized\\b", "\\bassert\\b", "->", "::", "\\w+Exact\\b", "\\bSystem\\.(?!arraycopy)", "^package\\b", "\\bstatic\\s*\\{",
-            "^import (?!java\\.util\\.Arrays;)");
+            "\\bsynchronized\\b", "\\bassert\\b", "->", "::", "\\w+Exact\\b", "\\bSystem\\.(?!arraycopy)", "^package\\b",
+            "\\bstatic\\s*\\{", "^import (?!java\\.util\\.Arrays;)", "[^\\x00-\\x7f]");
+    private static final Set<String> LIBRARY =
+            Set.of("Math.max", "Math.min", "Integer.bitCount", "Arrays.fill", "System.arraycopy");
 
     private FaceTest() {
     }
@@ -30,6 +33,7 @@ final class FaceTest {
         noNameTwice();
         fields();
         source();
+        library();
         lengths();
         room();
         CHECKS.end("FaceTest");
@@ -134,8 +138,23 @@ final class FaceTest {
         CHECKS.due("methods are found", methods > 100 ? 1 : 0, 1);
     }
 
+    private static String code() throws IOException {
+        return Files.readString(SOURCE).replaceAll("(?s)/\\*.*?\\*/", "").replaceAll("//.*", "");
+    }
+
+    /** Rule 4: of the library's static functions only these few, which it lists, are called. */
+    private static void library() throws IOException {
+        Matcher m = Pattern.compile("\\b([A-Z][a-z]\\w*\\.[a-z]\\w*)\\(").matcher(code());
+        int calls = 0;
+        while (m.find()) {
+            calls++;
+            CHECKS.due(m.group(1) + " is of the library told", LIBRARY.contains(m.group(1)) ? 1 : 0, 1);
+        }
+        CHECKS.due("calls of the library are found", calls > 10 ? 1 : 0, 1);
+    }
+
     private static void source() throws IOException {
-        String text = Files.readString(SOURCE).replaceAll("(?s)/\\*.*?\\*/", "").replaceAll("//.*", "");
+        String text = code();
         for (String pattern : FORBIDDEN) {
             Matcher m = Pattern.compile(pattern, Pattern.MULTILINE).matcher(text);
             CHECKS.due("the source has " + pattern, m.find() ? 1 : 0, 0);
